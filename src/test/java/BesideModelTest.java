@@ -2,7 +2,7 @@ import java.util.Random;
 
 /** Random runs of calls, all answers set beside those of PlainCloth; every promise has its calls. */
 public final class BesideModelTest {
-    private static final int RUNS = 1500;
+    private static final int RUNS = 1000;
     private static final int CALLS = 512;
 
     private final Due due;
@@ -10,6 +10,7 @@ public final class BesideModelTest {
     private final String run;
     private final ClothMaker maker = new ClothMaker();
     private final PlainCloth plain = new PlainCloth();
+    private int calls;
     private int cells;
     private int tiles = 9;
 
@@ -28,22 +29,84 @@ public final class BesideModelTest {
     }
 
     private void go() {
-        int calls = 0;
-        int wantedCells = random.nextInt(34);
-        int keepTo = 120 + random.nextInt(200);
+        buildNet();
         while (calls < CALLS && !due.hasWrong()) {
-            if (cells < wantedCells && random.nextInt(8) != 0) {
-                grow();
-            } else if (random.nextInt(keepTo) == 0) {
-                grow();
-            } else {
-                other();
+            round();
+        }
+    }
+
+    private void buildNet() {
+        int plainCells = random.nextInt(13);
+        int wanted = random.nextInt(3) == 0 ? random.nextInt(33) : 20 + random.nextInt(13);
+        for (int k = 0; k < 80 && cells < wanted; k++) {
+            growCell(cells < plainCells ? random.nextInt(5) : random.nextInt(30));
+        }
+        for (int k = random.nextInt(9); k > 0; k--) {
+            growOut();
+        }
+        for (int c = 0; c < cells; c++) {
+            if (maker.cell(c, 0) == 1 && random.nextInt(5) != 0) {
+                growSource(c);
             }
-            calls++;
+        }
+    }
+
+    /** As the calls are meant to follow one another, with others strewn in between. */
+    private void round() {
+        if (random.nextInt(3) == 0) {
+            growAny();
+        }
+        if (random.nextInt(2) == 0) {
+            changeCloth();
+        }
+        same("tables()", maker.tables(), plain.tables());
+        some(5, 0);
+        same("set()", maker.set(), plain.set());
+        some(6, 1);
+        if (random.nextInt(3) != 0) {
+            lead();
+            some(10, 2);
+        }
+        some(3, 1);
+        if (random.nextInt(4) != 0) {
+            same("frames()", maker.frames(), plain.frames());
+            some(40, 3);
+        }
+        some(4, 4);
+    }
+
+    private void some(int most, int group) {
+        for (int k = random.nextInt(most + 1); k > 0 && !due.hasWrong(); k--) {
+            boolean strange = random.nextInt(60) == 0;
+            ask(strange || group == 4 ? random.nextInt(6) : group == 3 ? 3 + random.nextInt(3) : group);
+        }
+    }
+
+    private void ask(int group) {
+        switch (group) {
+            case 0:
+                ofCones();
+                break;
+            case 1:
+                ofPlaces();
+                break;
+            case 2:
+                ofWays();
+                break;
+            case 3:
+                ofFrames();
+                break;
+            case 4:
+                ofRuns();
+                break;
+            default:
+                ofRows();
+                break;
         }
     }
 
     private void same(String call, int got, int want) {
+        calls++;
         due.same(run + call, got, want);
     }
 
@@ -61,64 +124,65 @@ public final class BesideModelTest {
         return bound <= 0 ? 0 : random.nextInt(bound);
     }
 
-    private void grow() {
-        int dice = random.nextInt(20);
-        if (dice < 3) {
-            int got = maker.input();
-            cells = Math.max(cells, got + 1);
-            same("input()", got, plain.input());
-        } else if (dice < 6) {
-            boolean first = random.nextBoolean();
-            int got = maker.keeper(first);
-            cells = Math.max(cells, got + 1);
-            same("keeper(" + first + ")", got, plain.keeper(first));
-        } else if (dice < 16) {
-            growGate();
-        } else if (dice < 18) {
-            int k = upTo(cells);
-            int c = upTo(cells);
-            same("source(" + k + ", " + c + ")", maker.source(k, c), plain.source(k, c));
+    private void growAny() {
+        int dice = random.nextInt(4);
+        if (dice == 0) {
+            growOut();
+        } else if (dice == 1) {
+            growSource(upTo(cells));
         } else {
-            int c = random.nextInt(2) == 0 ? cells - 1 : upTo(cells);
-            same("out(" + c + ")", maker.out(c), plain.out(c));
+            growCell(random.nextInt(20));
         }
     }
 
-    private void growGate() {
-        int kind = upTo(3);
-        int back = random.nextBoolean() ? 2 * cells : Math.min(2 * cells, 12);
-        int x = random.nextInt(3) == 0 ? upTo(2 * cells) : 2 * cells - 1 - upTo(back);
-        int y = random.nextInt(3) == 0 ? upTo(2 * cells) : 2 * cells - 1 - upTo(back);
-        int got = maker.gate(kind, x, y);
+    private void growCell(int dice) {
+        int got;
+        if (dice < 3) {
+            got = maker.input();
+            same("input()", got, plain.input());
+        } else if (dice < 5) {
+            boolean first = random.nextBoolean();
+            got = maker.keeper(first);
+            same("keeper(" + first + ")", got, plain.keeper(first));
+        } else {
+            int kind = upTo(3);
+            int x = sign();
+            int y = sign();
+            got = maker.gate(kind, x, y);
+            same("gate(" + kind + ", " + x + ", " + y + ")", got, plain.gate(kind, x, y));
+        }
         cells = Math.max(cells, got + 1);
-        same("gate(" + kind + ", " + x + ", " + y + ")", got, plain.gate(kind, x, y));
     }
 
-    private void other() {
-        switch (random.nextInt(9)) {
-            case 0:
-                ofCones();
-                break;
-            case 1:
-                ofCloth();
-                break;
-            case 2:
-            case 3:
-                ofPlaces();
-                break;
-            case 4:
-                ofWays();
-                break;
-            case 5:
-                ofFrames();
-                break;
-            case 6:
-            case 7:
-                ofRuns();
-                break;
-            default:
-                ofRows();
-                break;
+    /** Mostly of late CELLS, so that nets get deep. */
+    private int sign() {
+        int near = random.nextInt(3) == 0 ? 2 * cells : Math.min(2 * cells, 10);
+        return random.nextInt(4) == 0 ? upTo(2 * cells) : 2 * cells - 1 - upTo(near);
+    }
+
+    private void growOut() {
+        int c = random.nextInt(2) == 0 ? cells - 1 : upTo(cells);
+        same("out(" + c + ")", maker.out(c), plain.out(c));
+    }
+
+    private void growSource(int keeper) {
+        int c = upTo(cells);
+        same("source(" + keeper + ", " + c + ")", maker.source(keeper, c), plain.source(keeper, c));
+    }
+
+    private void changeCloth() {
+        if (random.nextInt(2) == 0) {
+            int w = 1 + upTo(6);
+            int h = 1 + upTo(6);
+            int r = 1 + upTo(4);
+            int k = 1 + upTo(4);
+            int got = maker.cloth(w, h, r, k);
+            tiles = got >= 0 ? w * h : tiles;
+            same("cloth(" + w + ", " + h + ", " + r + ", " + k + ")", got, plain.cloth(w, h, r, k));
+        } else {
+            int t = upTo(tiles);
+            boolean is = random.nextBoolean();
+            same("broken(" + t + ", " + is + ")", maker.broken(t, is), plain.broken(t, is));
         }
     }
 
@@ -144,25 +208,6 @@ public final class BesideModelTest {
             default:
                 same("tables()", maker.tables(), plain.tables());
                 break;
-        }
-    }
-
-    private void ofCloth() {
-        if (random.nextInt(12) == 0) {
-            int w = 1 + upTo(6);
-            int h = 1 + upTo(6);
-            int r = 1 + upTo(4);
-            int k = 1 + upTo(4);
-            int got = maker.cloth(w, h, r, k);
-            tiles = got >= 0 ? w * h : tiles;
-            same("cloth(" + w + ", " + h + ", " + r + ", " + k + ")", got, plain.cloth(w, h, r, k));
-        } else if (random.nextInt(12) == 0) {
-            int t = upTo(tiles);
-            boolean is = random.nextBoolean();
-            same("broken(" + t + ", " + is + ")", maker.broken(t, is), plain.broken(t, is));
-        } else {
-            same("tables()", maker.tables(), plain.tables());
-            same("set()", maker.set(), plain.set());
         }
     }
 
@@ -195,28 +240,23 @@ public final class BesideModelTest {
         }
     }
 
-    private void ofWays() {
-        int j = upTo(2 * tiles);
-        int dice = random.nextInt(6);
-        if (dice == 0) {
-            int n = upTo(random.nextInt(6) == 0 ? 41 : 5);
-            same("lead(" + n + ")", maker.lead(n), plain.lead(n));
-            for (int k = 0; k < 5; k++) {
-                askWays(upTo(2 * tiles), random.nextInt(4));
-            }
-        } else {
-            askWays(j, dice - 1);
-        }
+    private void lead() {
+        int n = upTo(random.nextInt(3) == 0 ? 41 : 5);
+        same("lead(" + n + ")", maker.lead(n), plain.lead(n));
     }
 
-    private void askWays(int j, int dice) {
+    private void ofWays() {
+        int j = upTo(2 * tiles);
+        int dice = random.nextInt(9);
         if (dice == 0) {
+            lead();
+        } else if (dice < 3) {
             same("joint(" + j + ")", maker.joint(j), plain.joint(j));
-        } else if (dice == 1) {
+        } else if (dice < 6) {
             int c = upTo(cells);
             int i = upTo(4);
             same("way(" + c + ", " + i + ")", maker.way(c, i), plain.way(c, i));
-        } else if (dice == 2) {
+        } else if (dice < 8) {
             int what = upTo(3);
             same("side(" + j + ", " + what + ")", maker.side(j, what), plain.side(j, what));
         } else {
@@ -225,38 +265,50 @@ public final class BesideModelTest {
     }
 
     private void ofFrames() {
-        int t = upTo(tiles);
-        int i = upTo(random.nextInt(3) == 0 ? 37 : 9);
-        switch (random.nextInt(6)) {
+        int t = random.nextBoolean() ? upTo(tiles) : plain.tileOfTable(random.nextInt(32));
+        int i = upTo(plain.lengthOf(t));
+        switch (random.nextInt(20)) {
             case 0:
                 same("frames()", maker.frames(), plain.frames());
                 break;
             case 1:
-                same("octet(" + t + ", " + i + ")", maker.octet(t, i), plain.octet(t, i));
+                same("start()", maker.start(), plain.start());
                 break;
             case 2:
+            case 3:
+            case 4:
+            case 5:
+            case 6:
+            case 7:
+                same("octet(" + t + ", " + i + ")", maker.octet(t, i), plain.octet(t, i));
+                break;
+            case 8:
+            case 9:
+            case 10:
+            case 11:
+            case 12:
+            case 13:
                 int mask = random.nextInt(8) == 0 ? upTo(258) : 1 << random.nextInt(8);
                 int got = maker.bend(t, i, mask);
                 same("bend(" + t + ", " + i + ", " + mask + ")", got, plain.bend(t, i, mask));
                 break;
-            case 3:
+            case 14:
+            case 15:
+            case 16:
                 same("check()", maker.check(), plain.check());
                 break;
-            case 4:
-                same("back()", maker.back(), plain.back());
-                break;
             default:
-                same("start()", maker.start(), plain.start());
+                same("back()", maker.back(), plain.back());
                 break;
         }
     }
 
     private void ofRuns() {
-        if (random.nextInt(4) == 0) {
+        if (random.nextInt(3) == 0) {
             int what = upTo(4);
             same("told(" + what + ")", maker.told(what), plain.told(what));
         } else {
-            int inputs = random.nextInt(4) == 0 ? upTo(64) : upTo(8);
+            int inputs = upTo(random.nextInt(8) == 0 ? 64 : 1 << random.nextInt(4));
             same("clock(" + inputs + ")", maker.clock(inputs), plain.clock(inputs));
         }
     }
@@ -265,11 +317,11 @@ public final class BesideModelTest {
         int i = upTo(12);
         switch (random.nextInt(5)) {
             case 0:
-                int t = upTo(tiles);
+                int t = random.nextBoolean() ? upTo(tiles) : plain.tileOfTable(random.nextInt(32));
                 same("lay(" + t + ")", maker.lay(t), plain.lay(t));
                 break;
             case 1:
-                if (random.nextInt(5) == 0) {
+                if (random.nextInt(6) == 0) {
                     same("tear()", maker.tear(), plain.tear());
                 }
                 break;

@@ -727,6 +727,20 @@ final class PlainCloth {
         return i < 0 || i >= frames[tile].length ? BEYOND : 0;
     }
 
+    /** No calls of the face: these two let random calls meet bytes that matter. */
+    int tileOfTable(int dice) {
+        if (places == null || tables.isEmpty()) {
+            return 0;
+        }
+        List<Integer> all = new ArrayList<>(tables);
+        return places.get(all.get(dice % all.size()));
+    }
+
+    int lengthOf(int tile) {
+        boolean there = frames != null && tile >= 0 && tile < frames.length;
+        return there ? frames[tile].length : 0;
+    }
+
     int octet(int tile, int i) {
         int wrong = wrongByte(tile, i);
         return wrong != 0 ? no(wrong) : frames[tile][i];
