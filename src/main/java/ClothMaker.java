@@ -230,8 +230,10 @@ public final class ClothMaker {
     }
 
     public int tile(int cell) {
-        int wrong = wrongThing(cell);
-        return wrong != OK ? refuse(wrong) : places.tiles[cell];
+        if (!net.has(cell)) {
+            return refuse(BEYOND);
+        }
+        return places.holds(cell) ? places.tiles[cell] : refuse(MISSING);
     }
 
     public int move(int cell, int tile) {
@@ -254,12 +256,11 @@ public final class ClothMaker {
     }
 
     public int swap(int cell, int other) {
-        int wrong = wrongThing(cell);
-        if (wrong == OK) {
-            wrong = wrongThing(other);
+        if (!net.has(cell) || !net.has(other)) {
+            return refuse(BEYOND);
         }
-        if (wrong != OK) {
-            return refuse(wrong);
+        if (!places.holds(cell) || !places.holds(other)) {
+            return refuse(MISSING);
         }
         places.exchange(cell, other);
         forgetWays();
@@ -480,13 +481,6 @@ public final class ClothMaker {
             return BEYOND;
         }
         return net.sorts[cell] == GATE ? OK : KIND;
-    }
-
-    private int wrongThing(int cell) {
-        if (!net.has(cell)) {
-            return BEYOND;
-        }
-        return places.holds(cell) ? OK : MISSING;
     }
 
     private int wrongByte(int tile, int i) {

@@ -130,11 +130,14 @@ public final class ClothTest {
         x.gate(1, 0, 2);
         x.tables();
         DUE.same("18: nothing is SET", x.swap(0, 1), ClothMaker.MISSING);
-        DUE.same("18: the first, then the other", x.swap(0, 9), ClothMaker.MISSING);
+        DUE.same("18: the other is below all, nothing is SET", x.swap(0, -1), ClothMaker.BEYOND);
+        DUE.same("18: the other is above all, nothing is SET", x.swap(0, 4), ClothMaker.BEYOND);
+        DUE.same("18: the first is above all, nothing is SET", x.swap(4, 0), ClothMaker.BEYOND);
         x.cloth(3, 1, 1, 2);
         x.set();
         DUE.same("18: the first is beyond", x.swap(4, 3), ClothMaker.BEYOND);
-        DUE.same("18: the first is missing", x.swap(3, 4), ClothMaker.MISSING);
+        DUE.same("18: BEYOND comes ahead of MISSING", x.swap(3, 4), ClothMaker.BEYOND);
+        DUE.same("18: the first is missing", x.swap(3, 0), ClothMaker.MISSING);
         DUE.same("18: the other is beyond", x.swap(0, -1), ClothMaker.BEYOND);
         DUE.same("18: the other is missing", x.swap(0, 3), ClothMaker.MISSING);
         DUE.same("20: COST before", x.cost(), 3);

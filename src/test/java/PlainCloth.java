@@ -438,9 +438,13 @@ final class PlainCloth {
     }
 
     int swap(int cell, int other) {
-        int wrong = wrongThing(cell) != 0 ? wrongThing(cell) : wrongThing(other);
-        if (wrong != 0) {
-            return no(wrong);
+        int first = wrongThing(cell);
+        int second = wrongThing(other);
+        if (first == BEYOND || second == BEYOND) {
+            return no(BEYOND);
+        }
+        if (first != 0 || second != 0) {
+            return no(MISSING);
         }
         exchange(cell, other);
         placesChanged();
