@@ -4,6 +4,8 @@ import java.util.Random;
 public final class BesideModelTest {
     private static final int RUNS = 1000;
     private static final int CALLS = 512;
+    /** The most calls of one round(). */
+    private static final int ROUND_CALLS = 74;
 
     private final Due due;
     private final Random random;
@@ -30,7 +32,7 @@ public final class BesideModelTest {
 
     private void go() {
         buildNet();
-        while (calls < CALLS && !due.hasWrong()) {
+        while (calls + ROUND_CALLS <= CALLS && !due.hasWrong()) {
             round();
         }
     }
@@ -45,7 +47,9 @@ public final class BesideModelTest {
             growOut();
         }
         for (int c = 0; c < cells; c++) {
-            if (maker.cell(c, 0) == 1 && random.nextInt(5) != 0) {
+            int sort = maker.cell(c, 0);
+            same("cell(" + c + ", 0)", sort, plain.cell(c, 0));
+            if (sort == 1 && random.nextInt(5) != 0) {
                 growSource(c);
             }
         }

@@ -26,12 +26,48 @@ public final class FaceTest {
     private static final String[] CONSTANTS = {
         "NONE", "MISSING", "BEYOND", "BELOW", "KIND", "COPY", "NO", "FULL"};
 
+    private static final Path SOURCE = Path.of(System.getProperty("clothmaker.home", "."))
+            .resolve("src/main/java/ClothMaker.java");
+    private static final Path DOCUMENT = Path.of(System.getProperty("clothmaker.shared", "../shared"))
+            .resolve("DOC.md");
+
     public static void main(String[] args) throws Exception {
+        asTheDocumentHasIt();
         face();
         constants();
         classesInside();
         sourceWords();
         DUE.end();
+    }
+
+    /** Each line of the document's face stands in the source, names of parameters too; none besides. */
+    private static void asTheDocumentHasIt() throws Exception {
+        if (!Files.exists(DOCUMENT)) {
+            System.out.println("FaceTest: no " + DOCUMENT + ": only what stands here is looked at");
+            return;
+        }
+        String document = Files.readString(DOCUMENT);
+        String begin = "```java\npublic final class ClothMaker {\n";
+        int from = document.indexOf(begin);
+        int to = document.indexOf("```", from + begin.length());
+        DUE.holds("the document has a face", from >= 0 && to > from);
+        if (from < 0 || to <= from) {
+            return;
+        }
+        TreeSet<String> due = new TreeSet<>();
+        for (String line : document.substring(from + begin.length(), to).split("\n")) {
+            if (line.startsWith("    public ")) {
+                due.add(line.trim());
+            }
+        }
+        TreeSet<String> there = new TreeSet<>();
+        for (String line : Files.readAllLines(SOURCE)) {
+            if (line.startsWith("    public ")) {
+                there.add(line.trim().replace(" {", ";"));
+            }
+        }
+        DUE.same("members", due.size(), CONSTANTS.length + 1 + METHODS.length);
+        DUE.holds("the face: " + there, there.equals(due));
     }
 
     private static void face() {
@@ -109,8 +145,7 @@ public final class FaceTest {
     }
 
     private static void sourceWords() throws Exception {
-        String path = System.getProperty("clothmaker.source", "src/main/java/ClothMaker.java");
-        String source = Files.readString(Path.of(path));
+        String source = Files.readString(SOURCE);
         String code = source.replaceAll("(?s)/\\*.*?\\*/", "").replaceAll("//[^\n]*", "");
         String[] words = {"throw", "throws", "try", "catch", "finally", "synchronized", "assert",
             "package", "volatile", "Thread", "Random", "Object", "equals", "hashCode", "toString"};
